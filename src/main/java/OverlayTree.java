@@ -236,13 +236,14 @@ public final class OverlayTree {
 
     // All that is the same number of steps under a path is one row of neighbouring numbers,
     // and the same steps from another path lead to the same places of that path's row.
-    // A row lies either whole within the paths or whole beyond them.
+    // A row lies either whole within the paths or whole beyond them. What moves is never the root,
+    // so with its own place it spans at most DEPTH rows.
 
     private boolean fits(int from, int to) {
         int source = from;
         int target = to;
         int width = 1;
-        for (int step = 0; step <= DEPTH; step++) {
+        for (int step = 0; step < DEPTH; step++) {
             if (target >= PATHS && countRow(source, width) != 0) {
                 return false;
             }
@@ -258,7 +259,7 @@ public final class OverlayTree {
         int target = to;
         int width = 1;
         int moved = 0;
-        for (int step = 0; step <= DEPTH; step++) {
+        for (int step = 0; step < DEPTH; step++) {
             moved += carryRow(source, target, width);
             source = firstBelow(source);
             target = firstBelow(target);

@@ -440,6 +440,22 @@ public final class PromiseTest {
         refused("a directory to two steps below itself", () -> oneDeepFile(21), x -> x.move(1, 22));
         refused("a file beyond the last path", PromiseTest::twoChains, x -> x.move(2, 22));
         refused("a file two steps down beyond the last path", PromiseTest::twoChains, x -> x.move(1, 10));
+        refused("a file to path 85", () -> besideDeepDirectory(9), x -> x.move(2, 21));
+        refused("a file to path 341", () -> besideDeepDirectory(37), x -> x.move(2, 21));
+        for (int path = 9; path <= 12; path++) {
+            int taken = path;
+            refused("with " + path, () -> besideDeepDirectory(taken), x -> x.move(2, 24));
+            OverlayTree x = besideDeepDirectory(path);
+            due("with " + path + " where there is room", 2, x.move(2, 8));
+            due("what was at " + path, path, x.value(path + 24));
+        }
+        for (int path = 37; path <= 52; path++) {
+            int taken = path;
+            refused("with " + path, () -> besideDeepDirectory(taken), x -> x.move(2, 8));
+            OverlayTree x = besideDeepDirectory(path);
+            due("with " + path + " where there is room", 3, x.move(2, 4));
+            due("what was at " + path, path, x.value(path + 32));
+        }
         OverlayTree y = twoChains();
         due("remove", 0, y.remove(21));
         due("which fits once the file is gone", 2, y.move(1, 10));
@@ -683,6 +699,19 @@ public final class PromiseTest {
         OverlayTree x = oneDeepFile(21);
         due("scene", 0, x.makeDir(2));
         due("scene", 0, x.make(9, 9));
+        return x;
+    }
+
+    /** The directory 1 with the empty directory 5, and the directory 2 with one file and what leads there. */
+    private static OverlayTree besideDeepDirectory(int path) {
+        OverlayTree x = emptyMounted();
+        due("scene", 0, x.makeDir(1));
+        due("scene", 0, x.makeDir(5));
+        due("scene", 0, x.makeDir(2));
+        if (path > 12) {
+            due("scene", 0, x.makeDir((path - 1) / 4));
+        }
+        due("scene", 0, x.make(path, path));
         return x;
     }
 
