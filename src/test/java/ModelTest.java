@@ -9,7 +9,9 @@ import java.util.Map;
  */
 public final class ModelTest {
     private static final int RUNS = 4000;
-    private static final int CALLS = 240;
+    private static final int CALLS = 512;
+    private static final int CALLS_TO_READ_ALL = 3 * 85;
+    private static final int SCENES = 4;
     private static final String[] NAMES = names();
     private static final Map<String, Integer> NUMBERS = numbers();
 
@@ -17,6 +19,11 @@ public final class ModelTest {
     private static long state = 1;
 
     public static void main(String[] args) {
+        for (int scene = 0; scene < SCENES && wrong < 20; scene++) {
+            everyFill(scene);
+            everyChange(scene);
+            everyMove(scene);
+        }
         int[] accepted = new int[12];
         for (int run = 0; run < RUNS && wrong < 20; run++) {
             state = 1000003L * run + 17;
@@ -34,12 +41,79 @@ public final class ModelTest {
         }
     }
 
+    // ---- each call with every path in and around the range, on the same few scenes
+
+    private static void everyFill(int scene) {
+        for (int layer = -1; layer <= 3; layer++) {
+            for (int path = -1; path <= 86; path++) {
+                for (int sort = 0; sort <= 5; sort++) {
+                    oneCall(scene, false, 0, layer, path, sort);
+                }
+            }
+        }
+        oneCall(scene, false, 7, 0, 0, 0);
+    }
+
+    private static void everyChange(int scene) {
+        for (int path = -1; path <= 86; path++) {
+            for (int call = 2; call <= 5; call++) {
+                oneCall(scene, true, call, path, 7, 0);
+                oneCall(scene, false, call, path, 7, 0);
+            }
+        }
+        oneCall(scene, true, 1, 0, 0, 0);
+        oneCall(scene, true, 7, 0, 0, 0);
+    }
+
+    private static void everyMove(int scene) {
+        for (int from = -1; from <= 86; from++) {
+            for (int to = -1; to <= 86; to++) {
+                oneCall(scene, true, 6, from, to, 0);
+            }
+        }
+    }
+
+    /** The call on a new object, then mounting if that has not been done, and then all that can be read. */
+    private static void oneCall(int scene, boolean mounted, int call, int a, int b, int c) {
+        OverlayTree x = new OverlayTree();
+        Model model = new Model();
+        fillScene(scene, x, model);
+        String what = "scene " + scene + ", call " + call + " (" + a + ", " + b + ", " + c + ")";
+        if (mounted) {
+            compare(what, x, model, 1, 0, 0, 0, 0);
+        }
+        compare(what, x, model, call, a, b, c, 7);
+        compare(what, x, model, 1, 0, 0, 0, 0);
+        compare(what, x, model, 11, 0, 0, 0, 0);
+        compareAll(what, x, model);
+    }
+
+    /** Some paths under 1, 2 and 3, with directories on the way to each; the first scene stays empty. */
+    private static void fillScene(int scene, OverlayTree x, Model model) {
+        state = 7919L * scene + 6;
+        for (int count = 0; count < 7 * scene; count++) {
+            int layer = next(3);
+            String name = NAMES[5 + next(12) + (next(3) == 0 ? 0 : 16 + next(32))];
+            for (int steps = 1; steps < name.length(); steps++) {
+                int above = NUMBERS.get(name.substring(0, steps));
+                int sort = next(8) == 0 ? OverlayTree.CLOSED : OverlayTree.DIRECTORY;
+                compare("scene " + scene, x, model, 0, layer, above, sort, count);
+            }
+            int sort = 1 + next(next(3) == 0 ? 4 : 2);
+            compare("scene " + scene, x, model, 0, layer, NUMBERS.get(name), sort, count);
+        }
+    }
+
+    // ---- long runs
+
     private static void oneRun(int run, int[] accepted) {
         OverlayTree x = new OverlayTree();
         Model model = new Model();
         List<String> told = new ArrayList<>();
         int fills = 10 + next(90);
-        for (int count = 0; count < CALLS; count++) {
+        boolean readAll = run % 4 != 0;
+        int calls = readAll ? CALLS - CALLS_TO_READ_ALL : CALLS;
+        for (int count = 0; count < calls; count++) {
             int call = count < fills ? 0 : count == fills ? 1 : next(12);
             if (count < fills && next(40) == 0) {
                 call = 2 + next(10);
@@ -60,19 +134,27 @@ public final class ModelTest {
                 return;
             }
         }
-        compareAll(run, x, model);
+        if (readAll) {
+            compareAll("end of run " + run, x, model);
+        }
     }
 
-    private static void compareAll(int run, OverlayTree x, Model model) {
+    private static void compareAll(String what, OverlayTree x, Model model) {
         for (int path = 0; path < 85; path++) {
             for (int call = 8; call <= 10; call++) {
-                int got = answer(x, call, path, 0, 0, 0);
-                int want = model.answer(call, path, 0, 0, 0);
-                if (got != want) {
-                    wrong++;
-                    System.out.println("end of run " + run + ": call " + call + " (" + path + ") answered "
-                        + got + ", due is " + want);
-                }
+                compare(what, x, model, call, path, 0, 0, 0);
+            }
+        }
+    }
+
+    private static void compare(String what, OverlayTree x, Model model, int call, int a, int b, int c, int d) {
+        int got = answer(x, call, a, b, c, d);
+        int want = model.answer(call, a, b, c, d);
+        if (got != want) {
+            wrong++;
+            if (wrong <= 100) {
+                System.out.println(what + ": call " + call + " (" + a + ", " + b + ", " + c + ", " + d
+                    + ") answered " + got + ", due is " + want);
             }
         }
     }

@@ -1,8 +1,6 @@
 import java.util.Arrays;
-import java.util.function.Supplier;
-import java.util.function.ToIntFunction;
 
-/** Each promise by itself: ordinary inputs, the edges that the document names, and wrong inputs. */
+/** Each promise by itself: what it does when nothing is refused. BoundaryTest has the refusals. */
 public final class PromiseTest {
     private static final int FILE = OverlayTree.FILE;
     private static final int DIRECTORY = OverlayTree.DIRECTORY;
@@ -10,7 +8,6 @@ public final class PromiseTest {
     private static final int HOLE = OverlayTree.HOLE;
     private static final int MIN = Integer.MIN_VALUE;
     private static final int MAX = Integer.MAX_VALUE;
-    private static final int[] NO_PATHS = {MIN, MIN + 1, -85, -4, -1, 85, 86, 255, 341, 1 << 30, MAX - 1, MAX};
 
     private static String promise = "";
     private static int wrong = 0;
@@ -18,7 +15,6 @@ public final class PromiseTest {
     public static void main(String[] args) {
         newObject();
         fill();
-        fillRefusals();
         mount();
         mountOverLayers();
         mountUnderCovers();
@@ -28,14 +24,11 @@ public final class PromiseTest {
         remove();
         move();
         moveRows();
-        moveRefusals();
         press();
         sort();
         value();
         entries();
         total();
-        callsBeforeMounting();
-        pathsOutOfRange();
         System.out.println(wrong == 0 ? "all answers are as due" : wrong + " answers are not as due");
         if (wrong != 0) {
             System.exit(1);
@@ -98,37 +91,6 @@ public final class PromiseTest {
         due("value(84)", -1, x.value(84));
     }
 
-    private static void fillRefusals() {
-        promise = "promise 2, fill refused";
-        Supplier<OverlayTree> scene = PromiseTest::filled;
-        for (int layer : new int[] {MIN, -1, 3, 4, MAX}) {
-            refused("layer " + layer, scene, x -> x.fill(layer, 4, FILE, 1));
-        }
-        for (int path : NO_PATHS) {
-            refused("path " + path, scene, x -> x.fill(0, path, FILE, 1));
-            refused("path " + path + " in layer 2", scene, x -> x.fill(2, path, DIRECTORY, 1));
-        }
-        refused("the root", scene, x -> x.fill(0, 0, DIRECTORY, 0));
-        refused("the root, a hole", scene, x -> x.fill(2, 0, HOLE, 0));
-        for (int sort : new int[] {MIN, -1, 0, 5, 6, MAX}) {
-            refused("sort " + sort, scene, x -> x.fill(0, 4, sort, 1));
-        }
-        for (int sort = FILE; sort <= HOLE; sort++) {
-            int s = sort;
-            refused("over a file", scene, x -> x.fill(0, 5, s, 9));
-            refused("over a directory", scene, x -> x.fill(0, 1, s, 9));
-            refused("over a closed directory", scene, x -> x.fill(1, 1, s, 9));
-            refused("over a hole", scene, x -> x.fill(1, 5, s, 9));
-            refused("below a file", scene, x -> x.fill(0, 21, s, 9));
-            refused("below a hole", scene, x -> x.fill(1, 21, s, 9));
-            refused("below nothing", scene, x -> x.fill(0, 17, s, 9));
-            refused("below a directory of another layer only", scene, x -> x.fill(0, 9, s, 9));
-            refused("two steps below a directory", scene, x -> x.fill(2, 37, s, 9));
-        }
-        refused("mounted", PromiseTest::mountedTree, x -> x.fill(0, 4, FILE, 1));
-        refused("mounted, over nothing in the layer", PromiseTest::mountedTree, x -> x.fill(2, 1, FILE, 1));
-    }
-
     private static void mount() {
         promise = "promise 3, mount";
         OverlayTree x = filled();
@@ -142,8 +104,6 @@ public final class PromiseTest {
         due("a directory of the highest layer", DIRECTORY, x.sort(2));
         due("a file in it", 99, x.value(9));
         due("total", 4, x.total());
-        refused("again", PromiseTest::mountedTree, OverlayTree::mount);
-        refused("again, after changes", PromiseTest::changedTree, OverlayTree::mount);
     }
 
     /** Every sort, and nothing, in each of the three layers at one path below the root. */
@@ -254,7 +214,6 @@ public final class PromiseTest {
         due("the last path of its directory", 0, x.make(68, -1));
         due("value(68)", -1, x.value(68));
         due("total", 9, x.total());
-        vacancyRefusals((y, path) -> y.make(path, 7));
     }
 
     private static void makeDir() {
@@ -282,7 +241,6 @@ public final class PromiseTest {
         due("remove", 0, x.remove(5));
         due("and a directory again", 0, x.makeDir(5));
         due("has no value", 0, x.value(5));
-        vacancyRefusals(OverlayTree::makeDir);
     }
 
     private static void write() {
@@ -300,15 +258,6 @@ public final class PromiseTest {
         due("make", 0, x.make(3, 4));
         due("a file that was made", 4, x.write(3, 5));
         due("value(3)", 5, x.value(3));
-        refused("the root", PromiseTest::mountedTree, y -> y.write(0, 1));
-        refused("a directory", PromiseTest::mountedTree, y -> y.write(1, 1));
-        refused("nothing", PromiseTest::mountedTree, y -> y.write(3, 1));
-        refused("a hole's path", PromiseTest::mountedTree, y -> y.write(5, 1));
-        refused("a removed file", PromiseTest::changedTree, y -> y.write(6, 1));
-        refused("not mounted", PromiseTest::filled, y -> y.write(6, 1));
-        for (int path : NO_PATHS) {
-            refused("path " + path, PromiseTest::mountedTree, y -> y.write(path, 1));
-        }
     }
 
     private static void remove() {
@@ -327,9 +276,6 @@ public final class PromiseTest {
         due("total", 0, x.total());
         for (int last = 21; last <= 24; last++) {
             int path = last;
-            Supplier<OverlayTree> scene = () -> oneDeepFile(path);
-            refused("a directory with the file " + path, scene, y -> y.remove(5));
-            refused("a directory with a directory", scene, y -> y.remove(1));
             OverlayTree z = oneDeepFile(path);
             due("remove of " + path, 0, z.remove(path));
             due("then of the directory", 0, z.remove(5));
@@ -341,15 +287,6 @@ public final class PromiseTest {
         due("makeDir", 0, x.makeDir(20));
         due("makeDir", 0, x.makeDir(84));
         due("a directory that no path is under", 0, x.remove(84));
-        refused("the root", PromiseTest::mountedTree, y -> y.remove(0));
-        refused("the root, empty", PromiseTest::emptyMounted, y -> y.remove(0));
-        refused("nothing", PromiseTest::mountedTree, y -> y.remove(3));
-        refused("a hole's path", PromiseTest::mountedTree, y -> y.remove(5));
-        refused("twice", PromiseTest::changedTree, y -> y.remove(6));
-        refused("not mounted", PromiseTest::filled, y -> y.remove(6));
-        for (int path : NO_PATHS) {
-            refused("path " + path, PromiseTest::mountedTree, y -> y.remove(path));
-        }
     }
 
     private static void move() {
@@ -414,63 +351,8 @@ public final class PromiseTest {
         due("total", 21, x.total());
     }
 
-    private static void moveRefusals() {
-        promise = "promise 8, move refused";
-        Supplier<OverlayTree> scene = PromiseTest::mountedTree;
-        for (int to : new int[] {0, 1, 2, 3, 5, 6, 9, 10, 84}) {
-            refused("from the root to " + to, scene, x -> x.move(0, to));
-            refused("from nothing to " + to, scene, x -> x.move(4, to));
-            refused("not mounted, to " + to, PromiseTest::filled, x -> x.move(6, to));
-        }
-        for (int path : NO_PATHS) {
-            refused("from " + path, scene, x -> x.move(path, 3));
-            refused("to " + path, scene, x -> x.move(6, path));
-            refused("from and to " + path, scene, x -> x.move(path, path));
-        }
-        refused("to the root", scene, x -> x.move(6, 0));
-        refused("to a file", scene, x -> x.move(6, 9));
-        refused("to a directory", scene, x -> x.move(6, 2));
-        refused("to itself", scene, x -> x.move(6, 6));
-        refused("a directory to itself", scene, x -> x.move(2, 2));
-        refused("to below nothing", scene, x -> x.move(6, 13));
-        refused("to below a file", scene, x -> x.move(2, 25));
-        refused("a file to below itself", scene, x -> x.move(6, 25));
-        refused("a directory to below itself", scene, x -> x.move(1, 8));
-        refused("an empty directory to below itself", PromiseTest::emptyDirectory, x -> x.move(4, 17));
-        refused("a directory to two steps below itself", () -> oneDeepFile(21), x -> x.move(1, 22));
-        refused("a file beyond the last path", PromiseTest::twoChains, x -> x.move(2, 22));
-        refused("a file two steps down beyond the last path", PromiseTest::twoChains, x -> x.move(1, 10));
-        refused("a file to path 85", () -> besideDeepDirectory(9), x -> x.move(2, 21));
-        refused("a file to path 341", () -> besideDeepDirectory(37), x -> x.move(2, 21));
-        for (int path = 9; path <= 12; path++) {
-            int taken = path;
-            refused("with " + path, () -> besideDeepDirectory(taken), x -> x.move(2, 24));
-            OverlayTree x = besideDeepDirectory(path);
-            due("with " + path + " where there is room", 2, x.move(2, 8));
-            due("what was at " + path, path, x.value(path + 24));
-        }
-        for (int path = 37; path <= 52; path++) {
-            int taken = path;
-            refused("with " + path, () -> besideDeepDirectory(taken), x -> x.move(2, 8));
-            OverlayTree x = besideDeepDirectory(path);
-            due("with " + path + " where there is room", 3, x.move(2, 4));
-            due("what was at " + path, path, x.value(path + 32));
-        }
-        OverlayTree y = twoChains();
-        due("remove", 0, y.remove(21));
-        due("which fits once the file is gone", 2, y.move(1, 10));
-        due("sort(41)", DIRECTORY, y.sort(41));
-        y = twoChains();
-        due("remove", 0, y.remove(9));
-        due("an empty directory into the last row", 1, y.move(2, 22));
-        due("sort(22)", DIRECTORY, y.sort(22));
-        due("entries(22)", 0, y.entries(22));
-    }
-
     private static void press() {
         promise = "promise 9, press";
-        refused("not mounted", PromiseTest::filled, OverlayTree::press);
-        refused("not mounted, empty", OverlayTree::new, OverlayTree::press);
         OverlayTree x = changedTree();
         due("press", 0, x.press());
         due("press", 0, x.press());
@@ -520,9 +402,6 @@ public final class PromiseTest {
         due("a hole", 0, x.sort(5));
         due("nothing", 0, x.sort(3));
         due("the last path", 0, x.sort(84));
-        for (int path : NO_PATHS) {
-            due("path " + path, -1, x.sort(path));
-        }
     }
 
     private static void value() {
@@ -537,9 +416,6 @@ public final class PromiseTest {
         due("a closed directory filled in with a value", 0, x.value(1));
         due("a hole filled in with a value", 0, x.value(5));
         due("nothing", 0, x.value(3));
-        for (int path : NO_PATHS) {
-            due("path " + path, 0, x.value(path));
-        }
         due("remove", 0, x.remove(6));
         due("a file that is gone", 0, x.value(6));
         due("makeDir", 0, x.makeDir(6));
@@ -558,9 +434,6 @@ public final class PromiseTest {
         due("a file", -1, x.entries(6));
         due("nothing", -1, x.entries(3));
         due("a hole", -1, x.entries(5));
-        for (int path : NO_PATHS) {
-            due("path " + path, -1, x.entries(path));
-        }
         for (int place = 0; place < 4; place++) {
             int path = 5 + place;
             if (path != 6) {
@@ -603,37 +476,6 @@ public final class PromiseTest {
         }
     }
 
-    // ---- the terms
-
-    private static void callsBeforeMounting() {
-        promise = "terms, before mounting";
-        refused("make", PromiseTest::filled, x -> x.make(3, 1));
-        refused("make in an empty object", OverlayTree::new, x -> x.make(1, 1));
-        refused("makeDir", PromiseTest::filled, x -> x.makeDir(3));
-        refused("write", PromiseTest::filled, x -> x.write(9, 1));
-        refused("remove", PromiseTest::filled, x -> x.remove(9));
-        refused("move", PromiseTest::filled, x -> x.move(9, 3));
-        refused("press", PromiseTest::filled, OverlayTree::press);
-    }
-
-    private static void pathsOutOfRange() {
-        promise = "terms, paths out of range";
-        for (int path : NO_PATHS) {
-            for (OverlayTree x : new OverlayTree[] {new OverlayTree(), filled(), mountedTree(), changedTree()}) {
-                due("fill " + path, -1, x.fill(0, path, FILE, 1));
-                due("make " + path, -1, x.make(path, 1));
-                due("makeDir " + path, -1, x.makeDir(path));
-                due("write " + path, -1, x.write(path, 1));
-                due("remove " + path, -1, x.remove(path));
-                due("move from " + path, -1, x.move(path, 1));
-                due("move to " + path, -1, x.move(9, path));
-                due("sort " + path, -1, x.sort(path));
-                due("value " + path, 0, x.value(path));
-                due("entries " + path, -1, x.entries(path));
-            }
-        }
-    }
-
     // ---- scenes
 
     private static OverlayTree filled() {
@@ -671,12 +513,6 @@ public final class PromiseTest {
         return x;
     }
 
-    private static OverlayTree emptyDirectory() {
-        OverlayTree x = emptyMounted();
-        due("scene", 0, x.makeDir(4));
-        return x;
-    }
-
     /** Not mounted: a chain down to a file in the lowest layer. */
     private static OverlayTree deepLowest() {
         OverlayTree x = new OverlayTree();
@@ -694,58 +530,7 @@ public final class PromiseTest {
         return x;
     }
 
-    /** The directory 1 with the directory 5 with the file 21, and the directory 2 with the file 9. */
-    private static OverlayTree twoChains() {
-        OverlayTree x = oneDeepFile(21);
-        due("scene", 0, x.makeDir(2));
-        due("scene", 0, x.make(9, 9));
-        return x;
-    }
-
-    /** The directory 1 with the empty directory 5, and the directory 2 with one file and what leads there. */
-    private static OverlayTree besideDeepDirectory(int path) {
-        OverlayTree x = emptyMounted();
-        due("scene", 0, x.makeDir(1));
-        due("scene", 0, x.makeDir(5));
-        due("scene", 0, x.makeDir(2));
-        if (path > 12) {
-            due("scene", 0, x.makeDir((path - 1) / 4));
-        }
-        due("scene", 0, x.make(path, path));
-        return x;
-    }
-
     // ---- checks
-
-    private interface PathCall {
-        int on(OverlayTree x, int path);
-    }
-
-    /** What make and makeDir refuse alike. */
-    private static void vacancyRefusals(PathCall call) {
-        Supplier<OverlayTree> scene = PromiseTest::mountedTree;
-        refused("the root", scene, x -> call.on(x, 0));
-        refused("a directory", scene, x -> call.on(x, 1));
-        refused("an empty directory", PromiseTest::emptyDirectory, x -> call.on(x, 4));
-        refused("a file", scene, x -> call.on(x, 6));
-        refused("below nothing", scene, x -> call.on(x, 13));
-        refused("below a file", scene, x -> call.on(x, 25));
-        refused("below a hole", scene, x -> call.on(x, 21));
-        refused("two steps below a directory", scene, x -> call.on(x, 33));
-        refused("below a removed file", PromiseTest::changedTree, x -> call.on(x, 25));
-        refused("not mounted", PromiseTest::filled, x -> call.on(x, 3));
-        refused("not mounted, below a filled directory", PromiseTest::filled, x -> call.on(x, 10));
-        for (int path : NO_PATHS) {
-            refused("path " + path, scene, x -> call.on(x, path));
-        }
-    }
-
-    /** The call answers -1, and every answer after it is the one of an object that never got the call. */
-    private static void refused(String what, Supplier<OverlayTree> scene, ToIntFunction<OverlayTree> call) {
-        OverlayTree x = scene.get();
-        due(what, -1, call.applyAsInt(x));
-        same(what, snapshot(scene.get()), snapshot(x));
-    }
 
     /** Some 260 calls, so that an object with one snapshot stays within its 512 calls. */
     private static int[] snapshot(OverlayTree x) {
