@@ -173,6 +173,7 @@ public final class BoundaryTest {
         valuesAreInts();
         rootIsDirectoryInEveryLayer();
         parentIsNoDirectory();
+        someThingAboveCovers();
         nothingInAnyLayer();
         everyPathHasDirectoryAbove();
         pathsOutOfRange();
@@ -292,6 +293,32 @@ public final class BoundaryTest {
             due("two steps below", 0, x.sort(21));
             due("its value", 0, x.value(21));
         }
+    }
+
+    private static void someThingAboveCovers() {
+        says("some path that p is under holds a file, a closed directory or a hole in that layer: nothing");
+        for (int cover = FILE; cover <= HOLE; cover++) {
+            boolean covers = cover != DIRECTORY;
+            OverlayTree x = chainInLowest();
+            due("fill", 0, x.fill(1, 1, cover, 3));
+            due("fill", 0, x.fill(2, 1, DIRECTORY, 0));
+            due("mount with " + cover + " one step above", covers ? 1 : 3, x.mount());
+            due("sort(5)", covers ? 0 : DIRECTORY, x.sort(5));
+            x = chainInLowest();
+            due("fill", 0, x.fill(1, 1, cover, 3));
+            due("fill", 0, x.fill(2, 1, DIRECTORY, 0));
+            due("fill", 0, x.fill(2, 5, DIRECTORY, 0));
+            due("mount with " + cover + " two steps above", covers ? 2 : 3, x.mount());
+            due("value(21)", covers ? 0 : 21, x.value(21));
+        }
+        OverlayTree x = chainInLowest();
+        due("fill", 0, x.fill(0, 2, FILE, 22));
+        due("fill", 0, x.fill(2, 1, CLOSED, 0));
+        due("fill", 0, x.fill(2, 8, FILE, 88));
+        due("mount with a closed directory that holds something", 3, x.mount());
+        due("what it holds itself", 88, x.value(8));
+        due("what a lower layer holds", 0, x.sort(5));
+        due("what is beside it", 22, x.value(2));
     }
 
     private static void nothingInAnyLayer() {
@@ -854,6 +881,13 @@ public final class BoundaryTest {
         }
         refused("a full directory a row down", BoundaryTest::fullBelowTwo, x -> x.move(2, 8));
         due("and where there is room", 21, fullBelowTwo().move(2, 3));
+        OverlayTree y = fullBelowTwo();
+        for (int path = 37; path <= 40; path++) {
+            due("remove", 0, y.remove(path));
+        }
+        due("makeDir", 0, y.makeDir(5));
+        due("an empty directory beside full ones to the last row", 1, y.move(9, 21));
+        due("what is beside it stays", 4, y.entries(10));
         OverlayTree x = oneDirectory(2);
         due("makeDir", 0, x.makeDir(4));
         due("makeDir", 0, x.makeDir(20));
