@@ -165,8 +165,8 @@ public final class TermsTest {
     private static void onlyChangesChangeTheTree() {
         says("the tree is changed by the calls make, makeDir, write, remove and move");
         for (int changes = 0; changes < 60; changes += 5) {
-            int[] once = sortsAndValues(changedBy(changes));
-            OverlayTree x = changedBy(changes);
+            int[] once = sortsAndValues(changedBy(0, changes));
+            OverlayTree x = changedBy(0, changes);
             sortsAndValues(x);
             for (int path = 0; path <= 20; path++) {
                 x.entries(path);
@@ -197,11 +197,11 @@ public final class TermsTest {
         for (int layer = 0; layer < 3; layer++) {
             for (int sort = FILE; sort <= HOLE; sort++) {
                 for (int changes = 0; changes <= 60; changes += 20) {
-                    OverlayTree x = changedBy(changes);
+                    OverlayTree x = changedBy(0, changes);
                     for (int path = 0; path < PATHS; path++) {
                         due("fill(" + layer + ", " + path + ", " + sort + ")", -1, x.fill(layer, path, sort, 1));
                     }
-                    same("after the fills", sortsAndValues(changedBy(changes)), sortsAndValues(x));
+                    same("after the fills", sortsAndValues(changedBy(0, changes)), sortsAndValues(x));
                 }
             }
         }
@@ -209,29 +209,36 @@ public final class TermsTest {
 
     private static void everyPathHasDirectoryAsParent() {
         says("In the tree, every path that is not nothing has a directory as its parent");
-        for (int changes = 0; changes <= 250; changes++) {
-            OverlayTree x = changedBy(changes);
-            int[] sorts = new int[PATHS];
-            int taken = 0;
-            for (int path = 0; path < PATHS; path++) {
-                sorts[path] = x.sort(path);
-                taken += path > 0 && sorts[path] != 0 ? 1 : 0;
+        for (int run = 0; run < 40; run++) {
+            for (int changes = 0; changes <= 250; changes += 5) {
+                directoriesAbove(run, changes);
             }
-            due("the root after " + changes + " changes", DIRECTORY, sorts[0]);
-            for (int path = 1; path < PATHS; path++) {
-                if (sorts[path] != 0) {
-                    due("above " + path + " after " + changes + " changes", DIRECTORY, sorts[PARENTS[path]]);
-                }
-            }
-            due("total after " + changes + " changes", taken, x.total());
         }
+    }
+
+    private static void directoriesAbove(int run, int changes) {
+        OverlayTree x = changedBy(run, changes);
+        String when = " in run " + run + " after " + changes + " changes";
+        int[] sorts = new int[PATHS];
+        int taken = 0;
+        for (int path = 0; path < PATHS; path++) {
+            sorts[path] = x.sort(path);
+            taken += path > 0 && sorts[path] != 0 ? 1 : 0;
+        }
+        due("the root" + when, DIRECTORY, sorts[0]);
+        for (int path = 1; path < PATHS; path++) {
+            if (sorts[path] != 0) {
+                due("above " + path + when, DIRECTORY, sorts[PARENTS[path]]);
+            }
+        }
+        due("total" + when, taken, x.total());
     }
 
     private static void refusedRunsChangeNothing() {
         says("A refused call answers -1 and changes nothing");
         for (int changes = 0; changes <= 80; changes += 4) {
-            OverlayTree x = changedBy(changes);
-            int[] before = sortsAndValues(changedBy(changes));
+            OverlayTree x = changedBy(0, changes);
+            int[] before = sortsAndValues(changedBy(0, changes));
             for (int path = 0; path < PATHS; path++) {
                 if (before[path] != 0) {
                     due("make(" + path + ")", -1, x.make(path, 1));
@@ -262,10 +269,10 @@ public final class TermsTest {
         }
     }
 
-    /** 37 calls that are the same each time; some of them are refused. */
+    /** 35 calls that are the same each time; some of them are refused. */
     private static void fillSome(OverlayTree x) {
         state = 5;
-        for (int path = 1; path <= 4; path++) {
+        for (int path = 1; path <= 2; path++) {
             due("scene", 0, x.fill(0, path, DIRECTORY, 0));
         }
         for (int count = 0; count < 33; count++) {
@@ -273,12 +280,12 @@ public final class TermsTest {
         }
     }
 
-    /** Mounted, after so many calls of those that change a tree; some of them are refused. */
-    private static OverlayTree changedBy(int changes) {
+    /** Mounted, after the first so many calls of a run of those that change a tree; some of them are refused. */
+    private static OverlayTree changedBy(int run, int changes) {
         OverlayTree x = new OverlayTree();
         fillSome(x);
         x.mount();
-        state = 11;
+        state = 1000003L * run + 11;
         for (int count = 0; count < changes; count++) {
             int call = next(8);
             int path = anyPath();
